@@ -29,8 +29,11 @@ public final class AllOrdersTest {
         for (int program = 0; program < PROGRAMS; program++) {
             makeProgram(new Dice(1000 + program));
             lookAtMeanings();
+            // Two objects, as one is used for at most 512 calls.
+            x = runProgram();
             askAboutMeanings();
             askAboutPatterns();
+            x = runProgram();
             askAboutTerms();
         }
         CHECK.end();
@@ -56,22 +59,32 @@ public final class AllOrdersTest {
     }
 
     private static void makeProgram(Dice dice) {
-        x = new TheorySolver();
         atoms = new int[1 + dice.roll(8)][];
         for (int i = 0; i < atoms.length; i++) {
             int t = dice.roll(7);
             atoms[i] = new int[] {t, (t + 1 + dice.roll(6)) % 7, -dice.roll(2)};
-            x.atom(atoms[i][0], atoms[i][1], atoms[i][2]);
         }
         clauses = new int[dice.roll(dice.oneIn(3) ? 17 : 8)][];
         for (int k = 0; k < clauses.length; k++) {
             clauses[k] = new int[1 + dice.roll(4)];
             for (int j = 0; j < clauses[k].length; j++) {
                 clauses[k][j] = dice.roll(2 * atoms.length);
-                x.literal(clauses[k][j]);
             }
-            x.clause();
         }
+    }
+
+    private static TheorySolver runProgram() {
+        TheorySolver made = new TheorySolver();
+        for (int[] atom : atoms) {
+            made.atom(atom[0], atom[1], atom[2]);
+        }
+        for (int[] clause : clauses) {
+            for (int l : clause) {
+                made.literal(l);
+            }
+            made.clause();
+        }
+        return made;
     }
 
     private static void lookAtMeanings() {

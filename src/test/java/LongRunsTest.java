@@ -1,6 +1,9 @@
 /** Runs of up to 512 calls of all kinds, wrong inputs among them, each answer against Reference's. */
 public final class LongRunsTest {
     private static final int RUNS = 400;
+    /** What later calls answer is free. */
+    private static final int LAST_CALL = 512;
+    private static final int MOST_CALLS_OF_A_TURN = 3;
     private static final int[] ODD_NUMBERS = {
         -1, 7, 8, 15, 16, 20, 21, -20, -21, 255, 256, Integer.MIN_VALUE, Integer.MAX_VALUE
     };
@@ -14,6 +17,7 @@ public final class LongRunsTest {
     private static int termCount;
     private static int firstTerm;
     private static StringBuilder told;
+    private static int made;
 
     public static void main(String[] args) {
         for (int run = 0; run < RUNS && !CHECK.failed(); run++) {
@@ -24,16 +28,25 @@ public final class LongRunsTest {
             termCount = 2 + dice.roll(6);
             firstTerm = dice.roll(7);
             told = new StringBuilder("run " + run + ":");
-            int calls = run % 8 == 0 ? 512 : 60;
-            for (int n = 0; n < calls && !CHECK.failed(); n++) {
-                call();
+            made = 0;
+            if (run % 8 == 0) {
+                callUntil(LAST_CALL);
+            } else {
+                callUntil(60);
+                askAboutAllTerms();
             }
-            askAboutAllTerms();
         }
         if (CHECK.failed()) {
             System.out.println(told);
         }
         CHECK.end();
+    }
+
+    /** A turn makes three calls at most, so those after the last but two may be left out. */
+    private static void callUntil(int last) {
+        while (made <= last - MOST_CALLS_OF_A_TURN && !CHECK.failed()) {
+            call();
+        }
     }
 
     private static void call() {
@@ -87,6 +100,8 @@ public final class LongRunsTest {
             due("close()", x.close(), want.close());
         } else if (dice.oneIn(20)) {
             due("clause()", x.clause(), want.clause());
+        } else {
+            due("clauses()", x.clauses(), want.clauses());
         }
     }
 
@@ -96,6 +111,7 @@ public final class LongRunsTest {
             x.scrap();
             want.scrap();
             told.append(" scrap()");
+            made++;
         }
         int l = likelyLiteral();
         due("literal(" + l + ")", x.literal(l), want.literal(l));
@@ -135,6 +151,7 @@ public final class LongRunsTest {
 
     private static void due(String call, int got, int right) {
         told.append(' ').append(call);
+        made++;
         CHECK.due(call, got, right);
     }
 
