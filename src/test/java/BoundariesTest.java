@@ -40,6 +40,8 @@ public final class BoundariesTest {
         termsAre0To6();
         valuesHaveNoLimit();
         valuesOfFAreFree();
+        differentValuesMayHaveOneF();
+        noWholeNumberBetween();
         term6Is0();
         atMost8Atoms();
         atomsAreOfDifferentTerms();
@@ -251,45 +253,86 @@ public final class BoundariesTest {
         }
     }
 
-    /** The widest span that eight atoms can ask for, and both ways out of it. */
+    /** Six atoms in a row ask for the widest span; every difference has an end one way and not the other. */
     private static void valuesHaveNoLimit() {
         begin("whole numbers (any, without limit)");
         for (int i = 0; i < 6; i++) {
             x.atom(i, i + 1, 20);
             x.fact(2 * i + 1);
         }
-        due("a is 126 or more", x.least(0, 6), 126);
-        due("and may be any such number", x.least(6, 0), ENDLESS);
+        for (int t = 0; t < 7; t++) {
+            for (int u = t + 1; u < 7; u++) {
+                due("least(" + t + ", " + u + ") of steps of 21", x.least(t, u), 21 * (u - t));
+                due("least(" + u + ", " + t + ") of steps of 21", x.least(u, t), ENDLESS);
+            }
+        }
         begin("whole numbers (any, without limit)");
         for (int i = 0; i < 6; i++) {
             x.atom(i, i + 1, -20);
             x.fact(2 * i);
         }
-        due("a is -120 or less", x.least(6, 0), 120);
-        due("and may be any such number", x.least(0, 6), ENDLESS);
+        for (int t = 0; t < 7; t++) {
+            for (int u = t + 1; u < 7; u++) {
+                due("least(" + t + ", " + u + ") of steps of -20", x.least(t, u), ENDLESS);
+                due("least(" + u + ", " + t + ") of steps of -20", x.least(u, t), 20 * (u - t));
+            }
+        }
     }
 
     private static void valuesOfFAreFree() {
-        begin("a function f from whole numbers to whole numbers");
-        x.atom(0, 6, 0);
-        x.atom(6, 0, 0);
-        x.fact(0);
-        x.fact(2);
-        due("a = 0 says nothing of f(a)", x.least(3, 6), ENDLESS);
-        due("a = 0 says nothing of f(b)", x.least(6, 4), ENDLESS);
-        x.atom(1, 6, 0);
-        x.atom(6, 1, 0);
-        x.fact(4);
-        due("b at most 0 leaves f(b) free", x.apart(3, 4), true);
-        x.fact(6);
-        due("b = 0 makes f(a) and f(b) the same", x.apart(3, 4), false);
-        due("and leaves f(c) free", x.apart(4, 5), true);
-        begin("a function f from whole numbers to whole numbers");
-        x.atom(3, 4, 0);
-        x.atom(4, 3, 0);
-        x.fact(0);
-        x.fact(2);
-        due("f(a) = f(b) leaves a and b free", x.apart(0, 1), true);
+        for (int i = 0; i < 3; i++) {
+            int next = (i + 1) % 3;
+            int third = (i + 2) % 3;
+            begin("a function f from whole numbers to whole numbers");
+            x.atom(i, 6, 0);
+            x.atom(6, i, 0);
+            x.fact(0);
+            x.fact(2);
+            due("a = 0 says nothing of f(a)", x.least(i + 3, 6), ENDLESS);
+            due("a = 0 says nothing of f(b)", x.least(6, next + 3), ENDLESS);
+            x.atom(next, 6, 0);
+            x.atom(6, next, 0);
+            x.fact(4);
+            due("b at most 0 leaves f(b) free", x.apart(i + 3, next + 3), true);
+            x.fact(6);
+            due("b = 0 makes f(a) and f(b) the same", x.apart(i + 3, next + 3), false);
+            due("and leaves f(c) free", x.apart(next + 3, third + 3), true);
+        }
+    }
+
+    private static void differentValuesMayHaveOneF() {
+        for (int i = 0; i < 3; i++) {
+            int next = (i + 1) % 3;
+            begin("a function f from whole numbers to whole numbers");
+            x.atom(i + 3, next + 3, 0);
+            x.atom(next + 3, i + 3, 0);
+            x.atom(i, next, -20);
+            x.fact(0);
+            x.fact(2);
+            due("f(a) = f(b) leaves a and b free", x.least(i, next), ENDLESS);
+            x.fact(4);
+            due("they may be far apart", x.possible(), true);
+        }
+    }
+
+    /** Only one whole number is more than 4 and less than 6, so a and b, if both are, are the same. */
+    private static void noWholeNumberBetween() {
+        for (int i = 0; i < 3; i++) {
+            int next = (i + 1) % 3;
+            begin("a function f from whole numbers to whole numbers");
+            x.atom(i, 6, 4);
+            x.atom(i, 6, 5);
+            x.atom(next, 6, 4);
+            x.atom(next, 6, 6);
+            x.fact(1);
+            x.fact(2);
+            x.fact(5);
+            x.fact(6);
+            due("5, and 5 or 6", x.apart(i + 3, next + 3), true);
+            x.atom(next, 6, 5);
+            x.fact(8);
+            due("5 and 5", x.apart(i + 3, next + 3), false);
+        }
     }
 
     private static void term6Is0() {
@@ -660,40 +703,44 @@ public final class BoundariesTest {
     }
 
     private static void scrapOfFour() {
-        begin("scrap: has no literal from now on");
-        x.atom(0, 1, 0);
-        x.atom(1, 2, 0);
-        x.fact(2);
-        x.open();
-        for (int count = 1; count <= 4; count++) {
-            x.literal(0);
+        for (int scrapped = 0; scrapped < 2; scrapped++) {
+            begin("scrap: has no literal from now on");
+            x.atom(0, 1, 0);
+            x.atom(1, 2, 0);
+            x.fact(2);
+            x.open();
+            for (int count = 1; count <= 4; count++) {
+                x.literal(scrapped);
+            }
+            x.scrap();
+            x.scrap();
+            due("clauses stay", x.clauses(), 1);
+            due("atoms stay", x.atoms(), 2);
+            due("the first again", x.literal(1 - scrapped), 1);
+            x.clause();
+            due("the scrapped ones do not count", x.implied(1 - scrapped), true);
+            due("levels stay", x.close(), 0);
         }
-        x.scrap();
-        x.scrap();
-        due("clauses stay", x.clauses(), 1);
-        due("atoms stay", x.atoms(), 2);
-        due("the first again", x.literal(1), 1);
-        x.clause();
-        due("the scrapped ones do not count", x.implied(1), true);
-        due("levels stay", x.close(), 0);
     }
 
     private static void clauseEmptiesTheDraft() {
-        begin("clause: the next one has no literal");
-        x.atom(0, 1, 0);
-        for (int count = 1; count <= 4; count++) {
-            x.literal(0);
+        for (int added = 0; added < 2; added++) {
+            begin("clause: the next one has no literal");
+            x.atom(0, 1, 0);
+            for (int count = 1; count <= 4; count++) {
+                x.literal(added);
+            }
+            x.clause();
+            due("the first of the next", x.literal(1 - added), 1);
+            x.clause();
+            due("the earlier ones are not of the next", x.possible(), false);
+            begin("clause: the next one has no literal");
+            x.atom(0, 1, 0);
+            or(added);
+            due("possible before", x.possible(), true);
+            x.clause();
+            due("a next one at once", x.possible(), false);
         }
-        x.clause();
-        due("the first of the next", x.literal(1), 1);
-        x.scrap();
-        x.clause();
-        due("a next one without literals", x.possible(), false);
-        begin("clause: the next one has no literal");
-        x.atom(0, 1, 0);
-        or(0);
-        x.clause();
-        due("a next one at once", x.possible(), false);
     }
 
     private static void clauseNumbers() {
@@ -782,19 +829,21 @@ public final class BoundariesTest {
 
     private static void closeEmptiesTheDraft() {
         for (int count = 0; count <= 4; count++) {
-            begin("close: the clause being made has no literal afterwards");
-            x.atom(0, 1, 0);
-            for (int n = 0; n < count / 2; n++) {
-                x.literal(0);
+            for (int dropped = 0; dropped < 2; dropped++) {
+                begin("close: the clause being made has no literal afterwards");
+                x.atom(0, 1, 0);
+                for (int n = 0; n < count / 2; n++) {
+                    x.literal(dropped);
+                }
+                x.open();
+                for (int n = count / 2; n < count; n++) {
+                    x.literal(dropped);
+                }
+                due("close", x.close(), 0);
+                due("literal", x.literal(1 - dropped), 1);
+                x.clause();
+                due("only that one", x.implied(1 - dropped), true);
             }
-            x.open();
-            for (int n = count / 2; n < count; n++) {
-                x.literal(0);
-            }
-            due("close", x.close(), 0);
-            due("literal", x.literal(1), 1);
-            x.clause();
-            due("only that one", x.implied(1), true);
         }
         begin("close: the clause being made has no literal afterwards");
         x.atom(0, 1, 0);
