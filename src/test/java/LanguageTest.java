@@ -37,6 +37,7 @@ public final class LanguageTest {
         members();
         words(code);
         arrays(code);
+        loops(code);
         calls(methodBodies(code));
         CHECK.end();
     }
@@ -85,6 +86,17 @@ public final class LanguageTest {
         for (String line : code.split("\n")) {
             if (line.contains("new ")) {
                 CHECK.due("rule 4: " + line, made.matcher(line).matches(), true);
+            }
+        }
+    }
+
+    /** A counter that goes up by one against a bound is an end that can be seen. */
+    private static void loops(String code) {
+        CHECK.due("rule 8: while or do", Pattern.compile("\\b(?:while|do)\\b").matcher(code).find(), false);
+        Pattern counted = Pattern.compile("for \\(int (\\w+) = [^;]+; \\1 < \\w+(?: && [^;]+)?; \\1\\+\\+\\) \\{");
+        for (String line : code.split("\n")) {
+            if (line.contains("for (")) {
+                CHECK.due("rule 8: " + line, counted.matcher(line).find(), true);
             }
         }
     }
