@@ -36,8 +36,9 @@ public final class LawsTest {
             leastIsReachedAndNoMore();
             equalAndApart();
             sameNumbersHaveTheSameF();
+            oppositeAsAnAtom();
             patternsOneByOne();
-            everyClauseShutsOutOrIsSpare();
+            oneAlikeMakesBothSpare();
             anotherClauseAddsNoMeaning();
         }
         CHECK.end();
@@ -339,11 +340,37 @@ public final class LawsTest {
         }
     }
 
+    /** The two atoms that make the numbers the same take the places of the last two, if these are taken. */
     private static void sameNumbersHaveTheSameF() {
-        TheorySolver x = made();
+        int kept = Math.min(atoms.length, 6);
+        int[][] some = Arrays.stream(clauses)
+            .filter(clause -> Arrays.stream(clause).allMatch(l -> l < 2 * kept)).limit(14).toArray(int[][]::new);
+        TheorySolver x = made(Arrays.copyOf(atoms, kept), some);
         for (int i = 0; i < 3; i++) {
-            for (int j = 0; j < 3; j++) {
-                due("f of the same number", !x.equal(i, j) || x.equal(i + 3, j + 3));
+            int j = (i + 1) % 3;
+            due("f of the same number", !x.equal(i, j) || x.equal(i + 3, j + 3));
+            x.open();
+            x.fact(2 * x.atom(i, j, 0));
+            x.fact(2 * x.atom(j, i, 0));
+            due("the same number", x.equal(i, j));
+            due("f of the same number", x.equal(i + 3, j + 3));
+            x.close();
+        }
+    }
+
+    /** "At most k" fails just where "at least k + 1" holds, so an atom that says this parts nothing. */
+    private static void oppositeAsAnAtom() {
+        TheorySolver x = made();
+        List<Integer> before = patternsOf(x);
+        for (int i = 0; i < atoms.length; i++) {
+            int k = -atoms[i][2] - 1;
+            if (k >= -GREATEST_OFFSET) {
+                x.open();
+                int added = x.atom(atoms[i][1], atoms[i][0], k);
+                due("the opposite parts nothing", x.patterns() == before.size());
+                due("the opposite is implied", x.implied(2 * added) == x.implied(2 * i + 1));
+                due("the opposite is shut out", x.implied(2 * added + 1) == x.implied(2 * i));
+                x.close();
             }
         }
     }
@@ -371,7 +398,7 @@ public final class LawsTest {
         }
     }
 
-    private static void everyClauseShutsOutOrIsSpare() {
+    private static void oneAlikeMakesBothSpare() {
         if (clauses.length == 0 || clauses.length == 16) {
             return;
         }
